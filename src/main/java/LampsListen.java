@@ -252,7 +252,8 @@ public final class LampsListen {
             return OUTSIDE;
         }
         hearing.listen(now, l);
-        return whistles.sounds(from, to, notes);
+        whistles.gather(notes);
+        return whistles.fewestSounds(from, to);
     }
 
     public int apart(long notes, int l, int d, int i) {
@@ -260,10 +261,11 @@ public final class LampsListen {
             return OUTSIDE;
         }
         hearing.listen(now, l);
+        whistles.gather(notes);
         int count = 0;
         for (int one = 0; one < signals.size(); one++) {
             for (int other = 0; other < signals.size(); other++) {
-                if (one == other || !isTooNear(one, other, notes, d)) {
+                if (one == other || !isTooNear(one, other, d)) {
                     continue;
                 }
                 if (count == i) {
@@ -275,8 +277,8 @@ public final class LampsListen {
         return i == NONE ? count : NONE;
     }
 
-    private boolean isTooNear(int one, int other, long notes, int d) {
-        int sounds = whistles.sounds(signals.at(one), signals.at(other), notes);
+    private boolean isTooNear(int one, int other, int d) {
+        int sounds = whistles.fewestSounds(signals.at(one), signals.at(other));
         return sounds != NONE && sounds < d;
     }
 
@@ -1059,6 +1061,8 @@ public final class LampsListen {
         private static final int MOST_LARGEST = 256;
 
         private final Hearing hearing;
+        private final Row sounded = new Row(SETS);
+        private final int[] isSounded = new int[SETS];
         private final Row largest = new Row(MOST_LARGEST);
         private final int[] least = new int[SETS];
         private final int[] reached = new int[NOTES];
@@ -1067,18 +1071,32 @@ public final class LampsListen {
             this.hearing = hearing;
         }
 
-        int sounds(int from, int to, long notes) {
+        /** Many sounds wake the same lamps: each set that some sound wakes is looked at once. */
+        void gather(long notes) {
+            sounded.empty();
+            Arrays.fill(isSounded, 0);
+            for (int place = 0; place < PLACES; place++) {
+                for (int note = 0; note < NOTES; note++) {
+                    int set = hearing.at(place, note);
+                    if ((notes >>> note & 1) != 0 && set >= 0 && set < SETS && isSounded[set] == 0) {
+                        isSounded[set] = 1;
+                        sounded.put(set);
+                    }
+                }
+            }
+        }
+
+        /** Behind gather. */
+        int fewestSounds(int from, int to) {
             if ((from & ~to) != 0) {
                 return NONE;
             }
             int missing = to & ~from;
             largest.empty();
-            for (int place = 0; place < PLACES; place++) {
-                for (int note = 0; note < NOTES; note++) {
-                    int set = hearing.at(place, note);
-                    if ((notes >>> note & 1) != 0 && (set & ~to) == 0 && (set & missing) != 0) {
-                        largest.putIfLargest(set & missing);
-                    }
+            for (int k = 0; k < sounded.size(); k++) {
+                int set = sounded.at(k);
+                if ((set & ~to) == 0 && (set & missing) != 0) {
+                    largest.putIfLargest(set & missing);
                 }
             }
             return fewestThatHold(missing);
@@ -1167,15 +1185,18 @@ public final class LampsListen {
 
     /**
      * The hummer's round. What a hum wakes doesn't depend on when it is hummed, so all that is hummed after going back
-     * could be hummed on the way there: a round in the fewest minutes never goes back.
+     * could be hummed on the way there: a round in the fewest minutes never goes back. Of the sets that may be woken
+     * at a place only those count that have all lamps that are too far behind to be woken any more.
      */
     private static final class Tour {
         private static final int MOST_STEPS = PLACES - 1 + MOST_LAMPS;
 
         private final Hearing hearing;
         private final int[] minutesLeft = new int[PLACES * SETS];
+        private final int[] behind = new int[PLACES];
         private final Row largest = new Row(NOTES);
         private final Row steps = new Row(MOST_STEPS);
+        private int lastPlace;
         private boolean canBe;
         boolean isFound;
 
@@ -1196,43 +1217,81 @@ public final class LampsListen {
                 return;
             }
             hearing.listen(moment, moment.site.loud);
-            int all = moment.site.allLamps();
-            for (int place = PLACES - 1; place >= 0; place--) {
-                countMinutesAt(place, all);
+            lastPlace = lastUseful(moment.site);
+            for (int place = lastPlace; place >= 0 && place < PLACES; place--) {
+                behind[place] = behindAt(moment.site, place);
+                gatherLargest(place);
+                countMinutesAt(place, nearTo(moment.site, place), moment.site.allLamps());
             }
             writeSteps();
             isFound = true;
         }
 
-        private void countMinutesAt(int place, int all) {
+        /** The first place at which a hum is heard as far on as any lamp is: farther on fewer are near and none new. */
+        private static int lastUseful(Site site) {
+            int last = 0;
+            for (int l = 0; l < site.lamps(); l++) {
+                last = Math.max(last, site.place.at(l) - site.loud + 1);
+            }
+            return last;
+        }
+
+        private static int behindAt(Site site, int place) {
+            int set = 0;
+            for (int l = 0; l < site.lamps(); l++) {
+                if (place - site.place.at(l) >= site.loud) {
+                    set |= 1 << l;
+                }
+            }
+            return set;
+        }
+
+        private static int nearTo(Site site, int place) {
+            int set = 0;
+            for (int l = 0; l < site.lamps(); l++) {
+                if (Math.abs(place - site.place.at(l)) < site.loud) {
+                    set |= 1 << l;
+                }
+            }
+            return set;
+        }
+
+        private void gatherLargest(int place) {
             largest.empty();
             for (int note = 0; note < NOTES; note++) {
-                if (hearing.at(place, note) != 0) {
-                    largest.putIfLargest(hearing.at(place, note));
+                int set = hearing.at(place, note);
+                if (set != 0) {
+                    largest.putIfLargest(set);
                 }
             }
-            setMinutes(place, all, 0);
-            for (int woken = all - 1; woken >= 0; woken--) {
-                int best = minutesFrom(place + 1, woken) + 1;
-                for (int k = 0; k < largest.size(); k++) {
-                    int then = woken | largest.at(k);
-                    if (then != woken) {
-                        best = Math.min(best, minutesFrom(place, then) + 1);
-                    }
+        }
+
+        /** Larger sets come first, as a hum leads to them. */
+        private void countMinutesAt(int place, int near, int all) {
+            int chosen = near;
+            for (int k = 0; k < SETS && chosen >= 0; k++) {
+                int woken = behind[place] | chosen;
+                if (woken < SETS) {
+                    minutesLeft[place * SETS + woken] = woken == all ? 0 : fewestFrom(place, woken);
                 }
-                setMinutes(place, woken, Math.min(best, NEVER));
+                chosen = chosen == 0 ? NONE : (chosen - 1) & near;
             }
+        }
+
+        private int fewestFrom(int place, int woken) {
+            int best = minutesFrom(place + 1, woken) + 1;
+            for (int k = 0; k < largest.size(); k++) {
+                int then = woken | largest.at(k);
+                if (then != woken) {
+                    best = Math.min(best, minutesFrom(place, then) + 1);
+                }
+            }
+            return Math.min(best, NEVER);
         }
 
         private int minutesFrom(int place, int woken) {
-            boolean isThere = isWithin(place, 0, PLACES - 1) && isWithin(woken, 0, SETS - 1);
-            return isThere ? minutesLeft[place * SETS + woken] : NEVER;
-        }
-
-        private void setMinutes(int place, int woken, int minutes) {
-            if (isWithin(place, 0, PLACES - 1) && isWithin(woken, 0, SETS - 1)) {
-                minutesLeft[place * SETS + woken] = minutes;
-            }
+            boolean isThere = isWithin(place, 0, Math.min(lastPlace, PLACES - 1)) && isWithin(woken, 0, SETS - 1);
+            return isThere && (behind[place] & ~woken) == 0 ? minutesLeft[place * SETS + woken] : NEVER;
         }
 
         private void writeSteps() {
