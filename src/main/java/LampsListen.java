@@ -18,7 +18,6 @@ public final class LampsListen {
     private static final int MOST_LOUD = 50;
     private static final int MOST_FROST = 9;
     private static final int MOST_MOTHS = 99;
-    private static final int IMAGES = 2;
     private static final int STEP_ON = 64;
     private static final int LOW_31_BITS = 0x7fffffff;
     // Above every count that can come out, and small enough to be added to.
@@ -31,8 +30,8 @@ public final class LampsListen {
     private final Row days = new Row(MOST_DAYS);
     private final Moment now = new Moment(site);
     private final Moment trial = new Moment(site);
-    private final Moment[] images = new Moment[IMAGES];
-    private final boolean[] kept = new boolean[IMAGES];
+    private final Moment firstImage = new Moment(site);
+    private final Moment secondImage = new Moment(site);
     private final Row signals = new Row(MOST_SIGNALS);
     private final Row entries = new Row(MOST_ENTRIES);
     private final Hearing hearing = new Hearing();
@@ -43,9 +42,6 @@ public final class LampsListen {
     public LampsListen() {
         site.fillUntold();
         now.startOn();
-        for (int i = 0; i < IMAGES; i++) {
-            images[i] = new Moment(site);
-        }
     }
 
     // ---- texts
@@ -72,9 +68,8 @@ public final class LampsListen {
         songs.empty();
         signals.empty();
         entries.empty();
-        for (int i = 0; i < IMAGES; i++) {
-            kept[i] = false;
-        }
+        firstImage.isKept = false;
+        secondImage.isKept = false;
         tour.isFound = false;
         return number;
     }
@@ -447,24 +442,33 @@ public final class LampsListen {
     }
 
     public int keep(int i) {
-        if (i < 0 || i >= IMAGES) {
+        Moment image = imageOf(i);
+        if (image == null) {
             return UNKNOWN;
         }
-        images[i].copy(now);
-        kept[i] = true;
+        image.copy(now);
+        image.isKept = true;
         return 1;
     }
 
     public int goBack(int i) {
-        if (i < 0 || i >= IMAGES) {
+        Moment image = imageOf(i);
+        if (image == null) {
             return UNKNOWN;
         }
-        if (!kept[i]) {
+        if (!image.isKept) {
             return NOT;
         }
-        now.copy(images[i]);
+        now.copy(image);
         tour.isFound = false;
         return 1;
+    }
+
+    private Moment imageOf(int i) {
+        if (i == 0) {
+            return firstImage;
+        }
+        return i == 1 ? secondImage : null;
     }
 
     // ---- bounds
@@ -896,6 +900,8 @@ public final class LampsListen {
         int frost;
         int wind;
         int drawn;
+        // Of an image alone: copies don't hand it on.
+        boolean isKept;
 
         Moment(Site site) {
             this.site = site;

@@ -18,7 +18,8 @@ public final class ModelTest {
 
     public static void main(String[] args) {
         Check check = new Check("ModelTest");
-        for (int run = 0; run < RUNS && check.wrong() < 20; run++) {
+        int runs = args.length > 0 ? Integer.parseInt(args[0]) : RUNS;
+        for (int run = 0; run < runs && check.wrong() < 20; run++) {
             new ModelTest(check, run).go(run);
         }
         check.end();

@@ -692,6 +692,8 @@ public final class PromisesTest {
         LampsListen y = Check.on("lamp 25 0 9 0;lamp 25 10 9 0;lamp 25 20 9 0;lamp 25 30 9 0;lamp 25 40 9 0;lamp 25 50 9 0;lamp 25 60 9 0;");
         C.due("some note is always heard", y.where(0, 50), 0);
         C.due("beyond it is quiet", y.where(0, 20), 50 - 39);
+        C.due("by the lowest note alone", Check.on("lamp 7 0 0 0;").where(1, 1), 1);
+        C.due("by the highest note alone", Check.on("lamp 7 63 0 0;").where(1, 1), 1);
     }
 
     private static void promise26File() {
@@ -763,6 +765,9 @@ public final class PromisesTest {
         C.due("n 0", x.tuned(0, 1, 0, NONE), OUTSIDE);
         C.due("n 11", x.tuned(0, 1, 11, NONE), OUTSIDE);
         C.due("nothing is filed", x.lamp(1, 1), 4);
+        LampsListen y = Check.on("lamp 0 10 0 0;lamp 0 12 0 0;lamp 0 14 0 0;");
+        C.due("two of three", y.tuned(10, 2, 2, 1), 1);
+        C.due("no third, with a lamp to spare", y.tuned(10, 2, 2, 2), NONE);
     }
 
     private static void promise29Flat() {
