@@ -132,6 +132,12 @@ public final class EdgesMonthsTest {
         C.due("two places on", y.round(NONE), 4);
         C.due("none is dark", y.flat(2), 0);
         C.due("lamp 0", y.flat(3), 1);
+        // They begin at place 0, and are as loud as a hum.
+        LampsListen z = Check.on("lamp 0 10 0 0;lamp 2 20 0 0;loud 1;");
+        Check.month(z, "frost 9;");
+        C.due("10, on, on, 20", z.round(NONE), 4);
+        C.due("none is dark", z.flat(2), 0);
+        C.due("no day", z.flat(0), NONE);
     }
 
     // ---- the log

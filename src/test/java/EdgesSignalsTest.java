@@ -562,6 +562,9 @@ public final class EdgesSignalsTest {
         }
         C.due("j 10", x.tuned(0, 7, 10, 10), NONE);
         C.due("j 1 of one", x.tuned(0, 7, 1, 1), NONE);
+        LampsListen y = Check.on("lamp 0 10 0 0;lamp 0 12 0 0;lamp 0 14 0 0;");
+        C.due("all three", y.tuned(10, 2, 3, 2), 2);
+        C.due("no third of two, though there is a lamp", y.tuned(10, 2, 2, 2), NONE);
     }
 
     private static void tunedNot() {

@@ -28,12 +28,19 @@ public final class EdgesTextsTest {
         quayNumbers();
         quayOnce();
         quayCounts();
+        quayAnew("lamp 9 8 0 2;", 1);
+        quayAnew("burn 6;", 0);
+        quayAnew("", 0);
+        quayStaysWithAFault();
+        lampsAndSingersAnew();
         nightNumbers();
         nightOrder();
+        nightAnew();
         monthNumbers();
         monthLength();
         figures();
         signsBesideLettersAndFigures();
+        letters();
         blanks();
         emptyTexts();
         theEnd();
@@ -114,12 +121,14 @@ public final class EdgesTextsTest {
 
     private static void newObject() {
         LampsListen x = new LampsListen();
-        C.due("no lamps", x.told(0), 0);
+        int[] due = {0, 0, 0, 0, 0, 0, 0, 20, 30, 5, 0, 0, 0};
+        for (int what = 0; what < due.length; what++) {
+            C.due("new, told " + what, x.told(what), due[what]);
+        }
         C.due("lamp 0", x.lamp(0, 0), UNKNOWN);
         C.due("a set of lamp 0", x.signal(1), UNKNOWN);
         C.due("the set of none", x.signal(0), 0);
         C.due("the seed", x.seed(0), 0);
-        C.due("frost", x.told(11), 0);
         C.due("no text fed, a quay", x.quay(), 0);
         C.due("no text fed, a night", x.night(), 0);
         C.due("no text fed, a month", x.month(), 0);
@@ -250,6 +259,88 @@ public final class EdgesTextsTest {
         Check.quay(x, LAMP.repeat(10) + SINGER.repeat(8) + "?");
         C.due("ten behind a fault", Check.quay(x, LAMP.repeat(10) + SINGER.repeat(8)), 10);
         C.due("ten behind ten", Check.quay(x, LAMP.repeat(10) + SINGER.repeat(8)), 10);
+    }
+
+    private static LampsListen full() {
+        LampsListen x = Check.on("lamp 1 10 1 1;lamp 3 20 1 1;" + SINGERS);
+        Check.night(x, "sing 0 0 10;sing 9 0 10;");
+        Check.month(x, "frost 1;frost 2;frost 3;");
+        x.signal(1);
+        x.signal(2);
+        x.log(1);
+        x.hum(1, 10);
+        x.hum(3, 20);
+        x.run(4);
+        x.weather(0, 2);
+        x.weather(1, 7);
+        x.file(0, 30);
+        x.seed(123);
+        x.keep(0);
+        x.keep(1);
+        return x;
+    }
+
+    /** Of a quay that is told, with lamps or without, nothing of the one before is left but the month and the seed. */
+    private static void quayAnew(String text, int lamps) {
+        LampsListen x = full();
+        C.due("quay '" + text + "'", Check.quay(x, text), lamps);
+        int[] due = {lamps, 0, 0, 3, 0, 0, 0, text.startsWith("burn") ? 6 : 20, 30, 5, 0, 0, 0};
+        for (int what = 0; what < due.length; what++) {
+            C.due("told " + what + " on '" + text + "'", x.told(what), due[what]);
+        }
+        C.due("nothing burns on '" + text + "'", x.lit(0), 0);
+        C.due("image 0 is gone on '" + text + "'", x.goBack(0), NOT);
+        C.due("image 1 is gone on '" + text + "'", x.goBack(1), NOT);
+        C.due("the seed stays on '" + text + "'", x.seed(0), 123);
+        C.due("lamp 1 is gone on '" + text + "'", x.lamp(1, 0), UNKNOWN);
+        int[] told = {9, 8, 0, 2, 8, 0, 0, NONE};
+        for (int what = 0; what < told.length; what++) {
+            C.due("lamp 0 " + what + " on '" + text + "'", x.lamp(0, what), lamps == 0 ? UNKNOWN : told[what]);
+        }
+        C.due("days stay on '" + text + "'", x.flat(1), 3 * lamps);
+        C.due("the last stays on '" + text + "'", x.flat(4), lamps);
+    }
+
+    private static void quayStaysWithAFault() {
+        LampsListen x = full();
+        C.due("a fault", Check.quay(x, "lamp 9 8 7 2;burn"), -11);
+        int[] due = {2, 3, 2, 3, 2, 1, 0, 20, 30, 5, 4, 2, 7};
+        for (int what = 0; what < due.length; what++) {
+            C.due("told " + what + " with a fault", x.told(what), due[what]);
+        }
+        C.due("what burns, with a fault", x.lit(0), 3);
+        C.due("as filed, with a fault", x.lamp(0, 1), 30);
+        C.due("image 0 stays", x.goBack(0), 1);
+        C.due("image 1 stays", x.goBack(1), 1);
+        C.due("the seed stays", x.seed(0), 123);
+    }
+
+    /** Nothing of a text that was told before, or that had a fault, is left in the one that is told then. */
+    private static void lampsAndSingersAnew() {
+        LampsListen x = Check.on("lamp 1 2 3 4;singer 5 6 7 8;");
+        Check.quay(x, "lamp 9 9 9 5;singer 9 9 9 9;?");
+        Check.quay(x, "lamp 11 12 6 5;singer 15 16 17 18;");
+        int[] lamp = {11, 12, 6, 5};
+        int[] singer = {15, 16, 17, 18};
+        for (int what = 0; what < 4; what++) {
+            C.due("lamp 0 " + what, x.lamp(0, what), lamp[what]);
+            C.due("singer 0 " + what, x.singer(0, what), singer[what]);
+        }
+        C.due("no second lamp", x.lamp(1, 0), UNKNOWN);
+        C.due("no second singer", x.singer(1, 0), UNKNOWN);
+    }
+
+    private static void nightAnew() {
+        LampsListen x = Check.on("lamp 0 10 0 0;lamp 0 20 0 0;burn 1;" + "singer 0 1 0 63;".repeat(2));
+        Check.night(x, "sing 0 0 10;sing 2 0 10;");
+        Check.night(x, "sing 0 0 10;?");
+        Check.night(x, "sing 1 1 20;");
+        x.run(1);
+        C.due("no song of the night before", x.lamp(0, 7), NONE);
+        x.run(2);
+        C.due("none of the night before", x.lamp(0, 7), NONE);
+        C.due("the song that was told", x.lamp(1, 7), 1);
+        C.due("what goes by stays", x.told(10), 3);
     }
 
     private static void nightNumbers() {
@@ -417,6 +508,22 @@ public final class EdgesTextsTest {
         monthFalls("lamp 0 0 0 0;", 1, 0);
         stands("burn 9;", Check::quay, 0, x -> x.told(7), 9);
         stands("burn 10;", Check::quay, 0, x -> x.told(7), 10);
+    }
+
+    /** One letter other, at any place, is another word. */
+    private static void letters() {
+        String[] quays = {"lamp 0 0 0 0;", "burn 1;", "moths 1;", "loud 1;", "singer 0 1 0 0;"};
+        for (String text : quays) {
+            for (int k = 0; k < text.indexOf(' '); k++) {
+                quayFalls(text.substring(0, k) + "x" + text.substring(k + 1), 1, 0);
+            }
+        }
+        for (int k = 0; k < 4; k++) {
+            nightFalls("sing".substring(0, k) + "x" + "sing".substring(k + 1) + " 0 1 0;", 1, 0);
+        }
+        for (int k = 0; k < 5; k++) {
+            monthFalls("frost".substring(0, k) + "x" + "frost".substring(k + 1) + " 0;", 1, 0);
+        }
     }
 
     private static void blanks() {
