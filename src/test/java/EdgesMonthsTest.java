@@ -126,6 +126,17 @@ public final class EdgesMonthsTest {
         C.due("by frost 0 one hears none", x.flat(2), 2);
         C.due("the first", x.flat(0), 0);
         C.due("two days", x.flat(1), 2);
+        // Lamps as filed, by the round and by the days.
+        LampsListen filed = Check.on("lamp 0 10 0 1;lamp 0 12 0 0;");
+        Check.month(filed, "frost 0;frost 1;frost 2;");
+        C.due("as told: 10, 12", filed.round(NONE), 2);
+        C.due("lamp 0 is dark", filed.flat(4), 1);
+        filed.file(0, 14);
+        C.due("as filed: 12, 14", filed.round(1), 14);
+        C.due("none is dark", filed.flat(2), 0);
+        C.due("lamp 0 is dark", filed.flat(3), 1);
+        C.due("12 wakes both", filed.flat(4), 0);
+        C.due("one day", filed.flat(1), 1);
         // Steps go on before they are hummed: from place 0 neither is heard.
         LampsListen y = Check.on("lamp 5 10 0 1;lamp 6 12 0 0;");
         Check.month(y, "frost 0;frost 1;");

@@ -525,6 +525,15 @@ public final class EdgesSignalsTest {
         alone("lamp 0 10 9 0;lamp 49 11 0 0;lamp 0 12 0 0;", 8, 10, 11, 20);
         // It is the told notes by which they come, not those that they are filed to.
         alone("lamp 0 10 5 0;lamp 0 11 5 0;lamp 0 12 0 0;", 25, 10, 21, 27);
+        // By frost the ears are 5 and 8, but it is by notes that they come, and notes that may not be below the one before.
+        LampsListen frozen = Check.on("lamp 0 10 3 5;lamp 0 8 0 0;");
+        frozen.weather(0, 1);
+        C.due("lamp 1 comes first", frozen.alone(NONE), 7);
+        C.due("its own note", frozen.alone(1), 8);
+        C.due("its ear is 12 then, which does not hear 8", frozen.alone(0), 17);
+        LampsListen far = Check.on("lamp 0 10 0 0;lamp 0 10 0 0;lamp 49 10 0 5;");
+        far.weather(0, 2);
+        C.due("not below the note, though its ear is far below", far.alone(2), 11);
         LampsListen x = Check.on("lamp 0 10 0 0;lamp 0 10 0 0;");
         x.alone(NONE);
         C.due("nothing is filed", x.lamp(1, 1), 10);
